@@ -426,9 +426,9 @@ public final class ZText {
     /** What each number means behind those that came before it in one text. */
     private static final class Reading {
         /** Answers of take() that are no SIGN; FIRST_ENTRY and above: the ABBREVIATION of an ENTRY. */
-        static final int NOTHING = -1;
-        static final int ABBREVIATION_BEGINS = -2;
-        static final int FIRST_ENTRY = SIGN_CODES;
+        private static final int NOTHING = -1;
+        private static final int ABBREVIATION_BEGINS = -2;
+        private static final int FIRST_ENTRY = SIGN_CODES;
 
         private static final int FREE = 0;
         private static final int FOR_ENTRY = 1;
