@@ -527,7 +527,7 @@ public final class ZText {
         int tellFrom(int place, int depth) {
             Reading reading = depth == 0 ? whole : abbreviation;
             reading.begin();
-            for (int p = place; memory.has(p) && memory.has(p + 1); p += 2) {
+            for (int p = place; p + 1 < memory.count(); p += 2) {
                 int two = memory.get(p) << 8 | memory.get(p + 1);
                 for (int bits = 10; bits >= 0; bits -= 5) {
                     int fault = follow(reading.take(two >> bits & 31), depth);

@@ -320,6 +320,7 @@ public final class PromiseTest {
         due("13: escape lacks one", told(3, 6, 6, 6, 5, 6, 1), "aaa");
         due("13: escape lacks both", told(3, 6, 5, 6), "a");
         due("13: nothing but 5s", told(3, 5, 5, 5), "");
+        due("13: nothing but 0s in the last word", told(3, 6, 6, 6, 0, 0, 0), "aaa   ");
     }
 
     private static void promise13abbreviations() {
@@ -411,6 +412,11 @@ public final class PromiseTest {
         int early = put(z, 1, 0, 1, 1, 1, 0);
         due("13: 1000 signs", z.tell(exact), 1000);
         setRow(z, "q");
+        z.feed(1 << 10 | 0 << 5 | 1, 2);
+        int half = z.feed(0 << 10 | 5 << 5 | 5, 2) - 4;
+        z.feed(0x7F, 1);
+        due("13: half a word behind 1000 signs", z.tell(half), -12);
+        z.keep(half);
         due("13: 1001st sign", z.tell(more), -14);
         due("13: row is kept", row(z), "q");
         due("13: 4 comes before 3", z.tell(unknown), -14);
@@ -761,6 +767,12 @@ public final class PromiseTest {
         due("22: cut as the word is", tokens(z), "0+8=5");
         setRow(z, "NEWARK");
         due("21: the row stays", row(z), "NEWARK");
+        setRow(z, "zap");
+        z.word();
+        setRow(z, "`{");
+        z.word();
+        setRow(z, "ZAP @[");
+        due("22: A to Z alone are made small", tokens(z), "0+3=6 4+2=-1");
     }
 
     private static void promise21most() {
