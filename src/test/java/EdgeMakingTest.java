@@ -21,10 +21,6 @@ public final class EdgeMakingTest {
         return Watched.withEntries(version, entries).best(text);
     }
 
-    private static String repeated(String text, int times) {
-        return text.repeat(times);
-    }
-
     // ---- Promise 15, 16: "-2"
 
     private static void promise15HowOutside() {
@@ -84,7 +80,7 @@ public final class EdgeMakingTest {
         z.sign(97);
         Due.is("promise 15: 1000 letters", z.numbers(0), 1000);
         Due.is("promise 15: 1000 letters, BEST", z.numbers(1), 1000);
-        z.setRow(repeated("\u00ff", 1000));
+        z.setRow("\u00ff".repeat(1000));
         Due.is("promise 15: 1000 codes", z.numbers(0), 4000);
         Due.is("promise 15: 1000 codes, BEST", z.numbers(1), 4000);
         Due.is("promise 15: the row stays", z.size(), 1000);
@@ -323,7 +319,7 @@ public final class EdgeMakingTest {
     private static void promise16RoomForTheLongestRow() {
         for (int how = 0; how <= 1; how++) {
             Watched z = new Watched(3);
-            z.setRow(repeated("\u00ff", 1000));
+            z.setRow("\u00ff".repeat(1000));
             z.fillMemory(333);
             Due.is("promise 16: 333 bytes before it", z.make(how), -4);
             Due.is("promise 16: refused one brings nothing", z.memory(), 333);
@@ -497,6 +493,10 @@ public final class EdgeMakingTest {
         Due.is("promise 16: a chain", best(3, "aaaaaaa", "aaa", "aaaa"), "1 0 1 1");
         Due.is("promise 16: dear ones within", best(3, "a@b", "a@"), "1 0 7");
         Due.is("promise 16: dear ones alone", best(3, "a@b@", "a@b", "@"), "1 0 1 1");
+        Due.is("promise 16: a code is four numbers, not fewer", best(3, "@bcdef", "@b", "bcdef"), "1 0 8 9 10 11");
+        Due.is("promise 16: a code is four numbers, not more", best(3, "@bcdefg", "@b", "bcdefg"), "5 6 2 0 1 1");
+        Due.is("promise 16: a shifted one is two numbers", best(3, "Abcd", "Ab", "bcd"), "1 0 8 9");
+        Due.is("promise 16: a shifted one is not three", best(3, "Abcde", "Ab", "bcde"), "4 6 1 1");
         Due.is("promise 16: 5s do not count", best(3, "abcabcd", "abc", "bcd"), "1 0 1 0 9");
     }
 

@@ -339,6 +339,23 @@ public final class EdgeStateTest {
         Due.is("promise 6: no room for two", z.feed(5, 1), -4);
     }
 
+    private static void promise6AllElseStays() {
+        Watched z = Watched.withEntries(5, "abc");
+        z.setRow("go");
+        z.word();
+        z.part();
+        z.tell(0);
+        z.keep(0);
+        Due.is("promise 6: the row stays", z.row(), "abc");
+        Due.is("promise 6: words stay", z.wordByte(0, 0), 12 << 2 | 20 >> 3);
+        Due.is("promise 6: tokens stay", z.token(0, 1), 2);
+        Due.is("promise 6: behind stays", z.behind(), 2);
+        Due.is("promise 6: the entry keeps its place", z.entry(0, 0), 0);
+        Due.is("promise 6: it tells nothing there", z.numbers(1), 3);
+        z.put(6, 7, 8);
+        Due.is("promise 6: it tells what has come there", z.numbers(1), 2);
+    }
+
     // ---- Promise 7: "A SIGN comes behind THE ROW: how many it has; -1: THE ROW is empty: 0."
 
     private static void promise7SignOutside() {
@@ -686,6 +703,7 @@ public final class EdgeStateTest {
         promise6NOutside();
         promise6AllButOneAndNone();
         promise6FullMemory();
+        promise6AllElseStays();
         promise7SignOutside();
         promise7EmptiesTheRow();
         promise7NoRoomBehind1000();

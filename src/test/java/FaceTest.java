@@ -106,7 +106,8 @@ public final class FaceTest {
     }
 
     private static long allocated() {
-        return ((ThreadMXBean) ManagementFactory.getThreadMXBean()).getThreadAllocatedBytes(Thread.currentThread().getId());
+        ThreadMXBean threads = (ThreadMXBean) ManagementFactory.getThreadMXBean();
+        return threads.getThreadAllocatedBytes(Thread.currentThread().getId());
     }
 
     /** A run of 512 calls, most of them of the dearest kinds: what it makes has room. */
