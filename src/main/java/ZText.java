@@ -154,7 +154,7 @@ public final class ZText {
         }
         // The ROW must stay as it is when a FAULT comes: the telling goes to a row of its own first.
         told.cut(0);
-        int end = teller.tellFrom(place, 0);
+        int end = teller.tellText(place);
         if (end < 0) {
             behind = 0;
             return FAULTY + end;
@@ -375,7 +375,8 @@ public final class ZText {
         }
 
         int letterFor(int alphabet, int number) {
-            return isLetter(alphabet, number) ? letters[LETTERS * alphabet + number - FIRST_LETTER] : ESCAPE;
+            int k = LETTERS * alphabet + number - FIRST_LETTER;
+            return k >= 0 && k < letters.length ? letters[k] : ESCAPE;
         }
 
         void spell(int sign, Row out) {
@@ -523,8 +524,18 @@ public final class ZText {
             abbreviation = new Reading(version, alphabets);
         }
 
-        /** The place behind the text's last WORD, or less than 0: a FAULT. Depth 1 is in an ABBREVIATION. */
-        int tellFrom(int place, int depth) {
+        /** The place behind the text's last WORD, or less than 0: a FAULT. */
+        int tellText(int place) {
+            return tellFrom(place, 0);
+        }
+
+        /** As tellText(), for a text that stands within another: an ABBREVIATION in it is a FAULT. */
+        int tellAbbreviation(int place) {
+            return tellFrom(place, 1);
+        }
+
+        /** Depth 1 is in an ABBREVIATION, and follow() lets none go deeper. */
+        private int tellFrom(int place, int depth) {
             Reading reading = depth == 0 ? whole : abbreviation;
             reading.begin();
             for (int p = place; p + 1 < memory.count(); p += 2) {
@@ -598,7 +609,7 @@ public final class ZText {
             for (int e = 0; e < usable; e++) {
                 told.cut(0);
                 int place = entries.get(e);
-                if (place >= 0 && teller.tellFrom(place, 1) >= 0 && told.count() > 0) {
+                if (place >= 0 && teller.tellAbbreviation(place) >= 0 && told.count() > 0) {
                     lengths[e] = told.count();
                     mark(e, row);
                 }
